@@ -42,7 +42,7 @@ public final class OpenLines {
     private static final int LOG_KINDS = 6;
 
     private final Tape tape = new Tape();
-    private final Reader reader = new Reader();
+    private final Reader reader = new Reader(tape);
     private final Arbiter arbiter = new Arbiter();
     private final Run run = new Run();
     private final Run guess = new Run();
@@ -56,9 +56,6 @@ public final class OpenLines {
     private int faultPlace;
 
     public OpenLines() {
-        run.start(plan);
-        guess.start(plan);
-        kept.start(plan);
     }
 
     // ---- the bus
@@ -79,7 +76,7 @@ public final class OpenLines {
         if (n < 0 || n > tape.count) {
             return refused(NUMBER);
         }
-        latestFault = reader.read(tape, n, spare);
+        latestFault = reader.read(n, spare);
         tape.clear();
         if (latestFault != 0) {
             faultPlace = reader.faultPlace;
@@ -662,17 +659,20 @@ public final class OpenLines {
 
         int faultPlace;
         private int faultFound;
-        private Tape source;
-        private Plan target;
+        private final Tape source;
+        private Plan target = new Plan();
         private int end;
         private int next;
         private int kind;
         private int place;
         private int value;
 
-        /** The number of the fault, 0 without one. */
-        int read(Tape tape, int n, Plan into) {
+        Reader(Tape tape) {
             source = tape;
+        }
+
+        /** The number of the fault, 0 without one. */
+        int read(int n, Plan into) {
             target = into;
             end = Math.min(n, ROOM);
             next = 0;
@@ -1519,7 +1519,7 @@ public final class OpenLines {
         }
 
         void enter(int time, int set, Arbiter arbiter) {
-            int[] entry = entries[through % LOGGED];
+            int[] entry = entries[Math.floorMod(through, LOGGED)];
             entry[0] = time;
             entry[1] = set;
             entry[2] = arbiter.firstWinners;
@@ -1541,19 +1541,17 @@ public final class OpenLines {
             if (!isBelow(i, logged()) || !isBelow(what, LOG_KINDS)) {
                 return NONE;
             }
-            return entries[(through - 1 - i) % LOGGED][what];
+            return entries[Math.floorMod(through - 1 - i, LOGGED)][what];
         }
 
         void endTick(int time, int master) {
-            if (time >= 0) {
-                masters[time % REMEMBERED] = master;
-            }
+            masters[Math.floorMod(time, REMEMBERED)] = master;
             count(master, REIGNED);
         }
 
         /** Who was master at the end of a tick that is among the latest 64. */
         int masterAt(int time) {
-            return time >= 1 ? masters[time % REMEMBERED] : NOBODY;
+            return time >= 1 ? masters[Math.floorMod(time, REMEMBERED)] : NOBODY;
         }
 
         int idleTicks(int time) {

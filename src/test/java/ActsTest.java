@@ -13,6 +13,7 @@ public final class ActsTest {
         promise37Stick();
         promise38Ticks();
         promise39And40KeepAndBack();
+        promise39And40Since();
         promise39And40Tape();
         promise41Never();
         promise42Size();
@@ -157,6 +158,38 @@ public final class ActsTest {
         x.ticks(1);
         x.back();
         CHECK.due("what was kept before is no more", Buses.state(x).equals(later), true);
+    }
+
+    private static void promise39And40Since() {
+        OpenLines x = Texts.made("bus gate 1 filter 0 window 1;board a slot 0 code 1 rank 0;board b slot 1 code 2 rank 1");
+        for (int i = 0; i < 5; i++) {
+            x.ask(0, 1);
+            x.ticks(4);
+        }
+        x.ask(1, 1);
+        x.ticks(1);
+        x.ask(0, 1);
+        x.keep();
+        CHECK.due("b asked first", x.longest(), 1);
+        for (int i = 0; i < 20; i++) {
+            x.ticks(4);
+            x.ask(0, 1);
+        }
+        x.ask(1, 1);
+        x.back();
+        CHECK.due("b asked first, again", x.longest(), 1);
+        for (int i = 0; i < 5; i++) {
+            CHECK.due("log(" + i + ", 0)", x.log(i, 0), 19 - 4 * i);
+        }
+        x.ticks(2);
+        CHECK.due("b asked for 3 ticks", x.ledger(1, 4), 3);
+        CHECK.due("trouble() behind a keep() and a back()", x.keep() && x.back() && x.trouble() == 0, true);
+        x.now(99);
+        x.keep();
+        CHECK.due("trouble() behind keep()", x.trouble(), 0);
+        x.now(99);
+        x.back();
+        CHECK.due("trouble() behind back()", x.trouble(), 0);
     }
 
     /** The tape is no part of the bus that is kept: it is as the latest feed() and bus() left it. */

@@ -71,6 +71,7 @@ public final class BusTest {
         CHECK.due("back()", x.back(), false);
         CHECK.due("nobody asks", x.now(5), 0);
         CHECK.due("no arbitration", x.now(3), -2);
+        CHECK.due("of nobody", x.now(4), 0);
         String six = HEAD;
         for (int b = 0; b < 6; b++) {
             six += ";board " + (char) ('a' + b) + " slot " + (9 - b) + " code " + (31 - b) + " rank " + b;

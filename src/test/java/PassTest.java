@@ -153,6 +153,9 @@ public final class PassTest {
         String text = "bus gate 1 filter FF window WW;board a slot 2 code 10 rank 0;board b slot 4 code 30 rank 0"
                 + ";board c slot 0 code 21 rank 0";
         CHECK.due("a filter above 0", Texts.made(text.replace("FF", "0").replace("WW", "11")).filters(2, 7), 4);
+        OpenLines five = Texts.made("bus gate 2 filter 0 window 24;board a slot 9 code 3 rank 0;board b slot 0 code 15 rank 0"
+                + ";board c slot 7 code 27 rank 0;board d slot 3 code 10 rank 0;board e slot 8 code 21 rank 0");
+        CHECK.due("the greatest filter", five.filters(2, 31), 20);
         for (int window = 1; window <= 31; window += 2) {
             OpenLines x = Texts.made(text.replace("FF", "0").replace("WW", "" + window));
             for (int set = 1; set < 8; set++) {
@@ -179,6 +182,12 @@ public final class PassTest {
         CHECK.told("the least of those that settle at once", y, y.slowest(1), 1);
         CHECK.told("enough for like words", y, y.enough(1), 0);
         CHECK.told("settled at once", y, y.settled(1, 0), 3);
+        OpenLines one = Texts.made("bus gate 1 filter 0 window 1;board a slot 0 code 1 rank 0");
+        CHECK.told("enough for one", one, one.enough(2), 0);
+        one.stick(5, 1);
+        CHECK.told("never enough for one", one, one.enough(2), -2);
+        CHECK.told("settled at 0", one, one.settled(2, 0), 0);
+        CHECK.told("settled at 1", one, one.settled(2, 1), 1);
         CHECK.refused("slowest(0)", y, y.slowest(0), 2);
         CHECK.refused("settled(3, 0)", y, y.settled(3, 0), 2);
         CHECK.refused("settled(1, 401)", y, y.settled(1, 401), 2);

@@ -18,6 +18,8 @@ public final class RunTest {
         promise32Longest();
         promise33Will();
         promise34Till();
+        tillItsLastTick();
+        newRun();
         whenAMasterAsks();
         refusals();
         CHECK.end();
@@ -275,6 +277,34 @@ public final class RunTest {
         CHECK.told("the master, next", y, y.till(0), 18);
         OpenLines z = Texts.made("bus gate 1 filter 0 window 200;board a slot 0 code 1 rank 0;ask 999 a 1");
         CHECK.told("far away", z, z.till(0), 1399);
+    }
+
+    /** Three in turn, each behind an arbitration of 400 ticks. */
+    private static void tillItsLastTick() {
+        String text = "bus gate 1 filter 0 window 200;board a slot 0 code 1 rank 0;board b slot 1 code 2 rank 1"
+                + ";board c slot 2 code 4 rank 2;ask TT a 1;ask TT b 1;ask TT c 1";
+        OpenLines x = Texts.made(text.replace("TT", "800"));
+        CHECK.told("the first", x, x.till(2), 1200);
+        CHECK.told("the last", x, x.till(0), 2000);
+        OpenLines y = Texts.made(text.replace("TT", "801"));
+        CHECK.told("too late", y, y.till(0), -2);
+        y.ticks(1);
+        CHECK.told("just in time", y, y.till(0), 2000);
+    }
+
+    /** A new bus has nothing of the counts of the one before. */
+    private static void newRun() {
+        OpenLines x = withOnePutOff();
+        x.ticks(40);
+        Texts.bus(x, Buses.THREE);
+        now(x, -2, -2, -2, -2, 0, 0, 0, 0, 0, 0, 0);
+        for (int b = 0; b < 3; b++) {
+            ledger(x, b, 0, 0, 0, 0, -2, 0);
+            CHECK.due("fresh", x.board(b, 4), 1);
+        }
+        CHECK.refused("no log", x, x.log(0, 0), 1);
+        CHECK.told("no past", x, x.past(0), -2);
+        CHECK.told("not idle", x, x.idle(), 0);
     }
 
     /** Its time is through behind the asks of that tick, so an ask told for it isn't heard. */
