@@ -1,5 +1,3 @@
-import java.util.NoSuchElementException;
-
 /** Promises 35 to 43: acts, and what is told. */
 public final class ActsTest {
     private static final Check CHECK = new Check("ActsTest");
@@ -201,38 +199,30 @@ public final class ActsTest {
         CHECK.due("size(0)", x.size(0), 20);
     }
 
-    private static int never(OpenLines x, int i) {
-        try {
-            return x.never(i);
-        } catch (NoSuchElementException e) {
-            return -99;
-        }
-    }
-
     private static void promise41Never() {
         OpenLines x = new OpenLines();
-        CHECK.due("never(0) without a bus", never(x, 0), -99);
+        CHECK.due("never(0) without a bus", Texts.never(x, 0), -99);
         Texts.bus(x, "bus gate 1 filter 0 window 9;board a slot 7 code 1 rank 0;board b slot 2 code 2 rank 0"
                 + ";board c slot 5 code 3 rank 0;ask 1 c 1");
         int[] want = {1, 2, 0};
         for (int i = 0; i < 3; i++) {
-            CHECK.due("never(" + i + ")", never(x, i), want[i]);
+            CHECK.due("never(" + i + ")", Texts.never(x, i), want[i]);
         }
-        CHECK.due("never(3)", never(x, 3), -99);
-        CHECK.due("never(-1)", never(x, -1), -99);
-        CHECK.due("never(MIN)", never(x, Integer.MIN_VALUE), -99);
+        CHECK.due("never(3)", Texts.never(x, 3), -99);
+        CHECK.due("never(-1)", Texts.never(x, -1), -99);
+        CHECK.due("never(MIN)", Texts.never(x, Integer.MIN_VALUE), -99);
         CHECK.due("trouble() is not never's", x.trouble(), 0);
         x.ticks(19);
         CHECK.due("c is master", x.now(0), 2);
-        CHECK.due("never(0)", never(x, 0), 1);
-        CHECK.due("never(1)", never(x, 1), 0);
-        CHECK.due("never(2)", never(x, 2), -99);
+        CHECK.due("never(0)", Texts.never(x, 0), 1);
+        CHECK.due("never(1)", Texts.never(x, 1), 0);
+        CHECK.due("never(2)", Texts.never(x, 2), -99);
         x.ask(0, 1);
         x.ticks(30);
-        CHECK.due("never(0)", never(x, 0), 1);
+        CHECK.due("never(0)", Texts.never(x, 0), 1);
         x.ask(1, 1);
         x.ticks(30);
-        CHECK.due("all were", never(x, 0), -99);
+        CHECK.due("all were", Texts.never(x, 0), -99);
     }
 
     private static void promise42Size() {
@@ -270,7 +260,7 @@ public final class ActsTest {
         x.where();
         x.size(0);
         x.feed(0, 0, 0, 0, 0);
-        never(x, 9);
+        Texts.never(x, 9);
         CHECK.due("2 behind calls without numbers", x.trouble(), 2);
         x.bus(20);
         CHECK.due("4", x.trouble(), 4);

@@ -3,11 +3,21 @@ final class Check {
     private static final int SHOWN = 40;
 
     private final String name;
+    private String part = "";
     private int answers;
     private int wrong;
 
     Check(String name) {
         this.name = name;
+    }
+
+    /** The part of the tests that is told with each wrong answer from now on. */
+    void enter(String name) {
+        part = " " + name;
+    }
+
+    int answers() {
+        return answers;
     }
 
     void due(String call, long got, long want) {
@@ -36,7 +46,7 @@ final class Check {
     void fail(String text) {
         wrong++;
         if (wrong <= SHOWN) {
-            System.out.println(name + ": " + text);
+            System.out.println(name + part + ": " + text);
         }
     }
 

@@ -1,3 +1,5 @@
+import java.util.NoSuchElementException;
+
 /** Puts texts on the tape. */
 final class Texts {
     private Texts() {
@@ -21,9 +23,20 @@ final class Texts {
         return number;
     }
 
+    /** Reads a text behind the blanks that the tape may have. */
     static int bus(OpenLines x, String text) {
+        int blanks = x.size(0);
         feed(x, text);
-        return x.bus(text.length());
+        return x.bus(blanks + text.length());
+    }
+
+    /** What never() answers, -99 where it throws what the document names. */
+    static int never(OpenLines x, int i) {
+        try {
+            return x.never(i);
+        } catch (NoSuchElementException e) {
+            return -99;
+        }
     }
 
     static OpenLines made(String text) {
