@@ -75,6 +75,16 @@ public final class BoardEdgeTest {
         CHECK.told("who waits hands on, but has it still", x, x.board(0, 3), 7);
     }
 
+    @Edge(promise = 7, says = "FRESH are all BOARDS at first.")
+    static void promise7AllFreshAtFirst() {
+        OpenLines x = Texts.made(SIX);
+        for (int b = 0; b < 6; b++) {
+            CHECK.told("board(" + b + ", 4)", x, x.board(b, 4), 1);
+        }
+        x.ticks(999);
+        CHECK.told("till one is ELECT", x, x.board(5, 4), 1);
+    }
+
     @Edge(promise = 7, says = "4 1 FRESH, 0")
     static void promise7FreshTillElected() {
         OpenLines x = Texts.made(Buses.TWO);
