@@ -265,6 +265,26 @@ public final class ActEdgeTest {
         CHECK.told("idle()", x, x.idle(), 48);
     }
 
+    @Edge(promise = 40, says = "All is as it was kept (it stays kept): true")
+    static void promise40SinceWhenEachAsks() {
+        OpenLines x = Texts.made(Buses.text(1, 0, 5, 0, 1, 0, 1, 2, 0));
+        x.ask(0, 1);
+        x.ticks(3);
+        x.ask(1, 1);
+        x.keep();
+        x.ticks(50);
+        x.ask(1, 1);
+        x.ticks(1);
+        x.ask(0, 1);
+        CHECK.told("b ASKS longer now", x, x.longest(), 1);
+        x.back();
+        CHECK.told("a did then", x, x.longest(), 0);
+        CHECK.told("a is MASTER", x, x.ticks(8), 0);
+        CHECK.told("a ASKED since 0", x, x.ledger(0, 4), 11);
+        CHECK.told("b is MASTER", x, x.ticks(10), 1);
+        CHECK.told("b ASKED since 3", x, x.ledger(1, 4), 18);
+    }
+
     @Edge(promise = 40, says = "of its CONTENDERS, as its WORDS were when it began")
     static void promise40WordsOfTheArbitrationThatGoesOn() {
         OpenLines x = Texts.made(Buses.text(1, 0, 9, 0, 1, 2, 1, 2, 3, 2, 4, 7));
@@ -475,6 +495,17 @@ public final class ActEdgeTest {
         x.now(11);
         x.back();
         CHECK.due("0 by back()", x.trouble(), 0);
+    }
+
+    @Edge(promise = 43, says = "0 it wasn't; 1 there is none such; 2 a number; 4 a FAULT; 5 not so.")
+    static void promise43EachNumber() {
+        OpenLines x = alone(1);
+        CHECK.told("0 it wasn't", x, x.now(7), 0);
+        CHECK.refused("1 there is none such", x, x.now(11), 1);
+        CHECK.refused("2 a number", x, x.ticks(1000), 2);
+        CHECK.refused("4 a FAULT", x, x.bus(0), 4);
+        x.ask(0, 1);
+        CHECK.refused("5 not so", x, x.ask(0, 1), 5);
     }
 
     @Edge(promise = 43, says = "TROUBLE of the latest call that may be refused (those of which a number is told here)")

@@ -75,6 +75,25 @@ public final class BoardEdgeTest {
         CHECK.told("who waits hands on, but has it still", x, x.board(0, 3), 7);
     }
 
+    @Edge(promise = 7, says = "RANK OF THE DAY: the greatest RANK of it and all that wait for it (by others, too).")
+    static void promise7GreatestOfAllThatWait() {
+        OpenLines x = Texts.made(Buses.text(1, 0, 20, 0, 1, 0, 1, 2, 3, 2, 3, 7, 3, 4, 5));
+        CHECK.told("none waits", x, x.board(0, 3), 0);
+        x.waits(1, 0);
+        CHECK.told("one waits", x, x.board(0, 3), 3);
+        x.waits(2, 1);
+        CHECK.told("by others", x, x.board(0, 3), 7);
+        CHECK.told("the one between", x, x.board(1, 3), 7);
+        x.waits(3, 0);
+        CHECK.told("one more, that is less", x, x.board(0, 3), 7);
+        x.waits(2, -1);
+        CHECK.told("no more", x, x.board(0, 3), 5);
+        CHECK.told("the one between", x, x.board(1, 3), 3);
+        x.waits(3, -1);
+        x.waits(1, -1);
+        CHECK.told("none waits", x, x.board(0, 3), 0);
+    }
+
     @Edge(promise = 7, says = "FRESH are all BOARDS at first.")
     static void promise7AllFreshAtFirst() {
         OpenLines x = Texts.made(SIX);

@@ -109,6 +109,20 @@ public final class FaultEdgeTest {
         CHECK.told("nobody else", x, x.now(5), 32);
     }
 
+    @Edge(promise = 3, says = "WORDS of 1 to 6 small letters that stand together")
+    static void promise3NoLetterIsNothing() {
+        for (char first = 'a'; first <= 'z'; first++) {
+            OpenLines x = fine(HEAD + ";board " + first + "o slot 0 code 1 rank 0;board o slot 1 code 2 rank 0;board o" + first
+                    + (first == 'o' ? "o" : "") + " slot 2 code 3 rank 0;ask 1 o 9");
+            x.ticks(1);
+            CHECK.told("o asks", x, x.now(5), 2);
+        }
+        fault(1, "^us gate 1 filter 0 window 20");
+        fault(1, "^bbus gate 1 filter 0 window 20");
+        fault(1, HEAD + ";^oard a slot 0 code 5 rank 2");
+        fault(1, ONE + ";^sk 1 a 1");
+    }
+
     @Edge(promise = 3, says = "WHOLES of 1 to 3 digits that do")
     static void promise3WholesOf1To3Digits() {
         OpenLines x = fine("bus gate 003 filter 07 window 8;board a slot 009 code 03 rank 000;ask 999 a 099");
@@ -482,6 +496,14 @@ public final class FaultEdgeTest {
         fault(6, "   ^board");
         fault(6, "^ask!");
         fault(6, "^board a slot 99");
+    }
+
+    @Edge(promise = 3, says = "), ahead of all others")
+    static void promise3OtherLinesInAnyOrder() {
+        OpenLines x = fine(ONE + ";ask 1 a 9;board b slot 1 code 6 rank 2;ask 1 b 8;ask 1 a 7;board c slot 2 code 7 rank 2");
+        CHECK.told("BOARDS", x, x.about(3), 3);
+        CHECK.told("asks told", x, x.about(4), 3);
+        fault(6, "^board a slot 0 code 5 rank 2;" + HEAD + ";board b slot 1 code 6 rank 2");
     }
 
     @Edge(promise = 4, says = "at the end: no BOARD.")

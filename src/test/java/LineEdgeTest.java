@@ -163,6 +163,38 @@ public final class LineEdgeTest {
         sees(x, 3, 1, from(0, 0b110010), from(3, 0b110011), from(7, 0b110010));
     }
 
+    /** DIPPING told in each order of its boards: who lets go, who drives on, and who looks on may be any of them. */
+    @Edge(promise = 11, says = "one by a BOARD w SLOTS away that LET GO at TICK r, of n TICKS, is seen from r and w on, n TICKS.")
+    static void promise11ADipOfAnyBoard() {
+        int[][] orders = {{0, 1, 2}, {0, 2, 1}, {1, 0, 2}, {1, 2, 0}, {2, 0, 1}, {2, 1, 0}};
+        int[] slots = {0, 3, 5};
+        int[] codes = {9, 25, 1};
+        for (int[] order : orders) {
+            int[] told = new int[9];
+            for (int role = 0; role < 3; role++) {
+                told[3 * order[role]] = slots[role];
+                told[3 * order[role] + 1] = codes[role];
+            }
+            OpenLines x = Texts.made(Buses.text(1, 0, 20, told));
+            int both = 1 << order[0] | 1 << order[1];
+            CHECK.told("DIPS", x, x.dips(2, both), 2);
+            sees(x, both, order[0], from(3, 0b110011), from(4, 0b100000), from(10, 0b110010));
+            sees(x, both, order[2], from(5, 0b110011), from(9, 0b100000), from(15, 0b110010));
+        }
+    }
+
+    @Edge(promise = 11, says = "and no DIP is seen")
+    static void promise11NoDipOfAnotherPass() {
+        int[] alone = {2, 1, 2};
+        int[] first = {3, 3, 2};
+        int[] lines = {0b110010, 0b010011, 0b110010};
+        for (int b = 0; b < 3; b++) {
+            OpenLines x = Texts.made(DIPPING);
+            CHECK.told("DIPS", x, x.dips(2, 3), 2);
+            sees(x, alone[b], b, from(0, 0), from(first[b], lines[b]));
+        }
+    }
+
     @Edge(promise = 11, says = "there is a DIP: twice as many TICKS as the nearest of them is SLOTS away.")
     static void promise11DipsOf2To18Ticks() {
         for (int apart = 1; apart <= 9; apart++) {
@@ -231,6 +263,18 @@ public final class LineEdgeTest {
         x.stick(5, 0);
         CHECK.told("whole", x, x.seen(2, 3, 0, 8), 16);
         CHECK.told("whole", x, x.seen(2, 3, 0, 9), 48);
+    }
+
+    @Edge(promise = 11, says = "LINES 0 .. 5. A WORD has a bit for each.")
+    static void promise11FirstAndLastLine() {
+        OpenLines x = Texts.made(Buses.text(1, 0, 20, 0, 15, 0, 1, 16, 0));
+        CHECK.told("all LINES but 5", x, x.seen(2, 1, 0, 0), 0b011111);
+        CHECK.told("LINE 5 alone", x, x.seen(2, 2, 1, 0), 0b100000);
+        CHECK.told("all LINES", x, x.seen(2, 3, 0, 1), 0b111111);
+        for (int line = 0; line < 6; line++) {
+            x.stick(line, 1);
+            CHECK.told("LINES up to " + line, x, x.seen(2, 2, 0, 0), (2 << line) - 1);
+        }
     }
 
     // ---- promise 12

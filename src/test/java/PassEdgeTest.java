@@ -178,6 +178,19 @@ public final class PassEdgeTest {
         CHECK.told("though they are BROKEN or STICK", y, y.dips(2, 3), 2);
     }
 
+    /** b drives LINE 3 all the time; c lets go of it at 2 and, as it drives it again at 4, at 10. */
+    @Edge(promise = 18, says = "A CONTENDER that drove a LINE at the TICK ahead and doesn't any more LETS GO of it")
+    static void promise18LetsGoTwice() {
+        OpenLines x = Texts.made(Buses.text(1, 0, 20, 6, 14, 0, 3, 28, 0, 5, 20, 0));
+        int[] line3 = {1, 1, 0, 0, 1, 1, 1, 1, 1, 1, 0, 0, 0};
+        for (int t = 0; t < line3.length; t++) {
+            CHECK.told("c drives LINE 3 at " + t, x, x.drives(2, 7, 2, t) >> 3 & 1, line3[t]);
+            CHECK.told("b at " + t, x, x.drives(2, 7, 1, t), 0b111000);
+        }
+        CHECK.told("a lets go of 4, 3, 2 at 2", x, x.drives(2, 7, 0, 1) - x.drives(2, 7, 0, 2), 0b011100);
+        CHECK.told("of LINES 4 and 3 by a, twice of LINE 3 by c", x, x.dips(2, 7), 4);
+    }
+
     // ---- promise 19
 
     @Edge(promise = 19, says = "some BOARD (CONTENDER or not) takes an even number of LINES for 1")
@@ -230,6 +243,15 @@ public final class PassEdgeTest {
         x.stick(4, 2);
         CHECK.told("a LINE that is BROKEN", x, x.edges(2, 3, 1, 4), 0);
         CHECK.told("but by who drives it", x, x.edges(2, 3, 0, 4), 1);
+    }
+
+    @Edge(promise = 20, says = "How often a LINE as SEEN by a BOARD changes from one TICK to the next one, till TICK 400.")
+    static void promise20FromTick0ToTick1() {
+        OpenLines x = Texts.made(Buses.text(1, 0, 20, 0, 8, 0, 1, 16, 0));
+        CHECK.told("seen from 1 on by one that looks on", x, x.edges(2, 1, 1, 4), 1);
+        CHECK.told("seen from 1 on", x, x.edges(2, 3, 0, 5), 1);
+        CHECK.told("seen till 1", x, x.edges(2, 3, 0, 4), 1);
+        CHECK.told("seen from 1 to 2", x, x.edges(2, 3, 1, 4), 2);
     }
 
     @Edge(promise = 20, says = "How often a LINE as SEEN by a BOARD changes from one TICK to the next one, till TICK 400.")

@@ -158,6 +158,26 @@ public final class RefusalEdgeTest {
         }
     }
 
+    @Edge(promise = 14, says = "1 (no BUS; no such BOARD); 2 (PASS, no CONTENDERS or one that there isn't, TICK: 0 .. 400)")
+    static void promise14ContendersOfOneToSixBoards() {
+        for (int boards = 1; boards <= 6; boards++) {
+            int[] told = new int[3 * boards];
+            for (int b = 0; b < boards; b++) {
+                told[3 * b] = b;
+                told[3 * b + 1] = b + 1;
+            }
+            OpenLines x = Texts.made(Buses.text(1, 0, 20, told));
+            int sets = 1 << boards;
+            CHECK.told("the first one alone", x, x.winners(2, 1, 400), 1);
+            CHECK.told("the last one alone", x, x.winners(2, sets / 2, 400), sets / 2);
+            CHECK.told("all at 0", x, x.winners(2, sets - 1, 0), sets - 1);
+            CHECK.refused("none", x, x.winners(2, 0, 0), 2);
+            CHECK.refused("one that there isn't", x, x.winners(2, sets, 0), 2);
+            CHECK.refused("it and others", x, x.winners(2, sets | 1, 0), 2);
+            CHECK.refused("far beyond", x, x.winners(2, 1 << 31 | 1, 0), 2);
+        }
+    }
+
     /** A call of a PASS, CONTENDERS and, perhaps, a TICK. */
     private interface OfSet {
         int of(OpenLines x, int pass, int set, int t);

@@ -55,6 +55,54 @@ public final class RunEdgeTest {
         }
     }
 
+    @Edge(promise = 26, says = "0 the MASTER (-2 none), 1 the TIME till which (-2), 2 ELECT (-2), 3 the TIME at which the ARBITRATION is through (-2 none goes on)")
+    static void promise26EachOrNone() {
+        int[][] told = {{0, -2, -2, -2, -2}, {1, -2, -2, -2, 41}, {41, 0, 91, -2, -2}, {42, 0, 91, -2, 82}, {82, 0, 91, 1, -2},
+            {83, 0, 91, 1, 123}, {91, -2, -2, 1, 123}, {123, 3, 128, -2, 163}, {128, -2, -2, -2, 163}, {163, 1, 168, -2, -2}, {168, -2, -2, -2, -2}};
+        OpenLines x = Texts.made(FOUR + ";ask 1 a 50;ask 42 b 5;ask 83 d 5");
+        for (int[] want : told) {
+            int left = want[0] - x.about(5);
+            if (left > 0) {
+                x.ticks(left);
+            }
+            for (int what = 0; what <= 3; what++) {
+                now(x, what, want[what + 1]);
+            }
+        }
+    }
+
+    @Edge(promise = 26, says = "6 ROUNDS begun, 7 ARBITRATIONS through, 8 those that FAILED, 9 FAULTY PASSES of those through, 10 how often one was PUT OFF.")
+    static void promise26EachIsCounted() {
+        OpenLines x = masterAndElect();
+        x.ask(3, 5);
+        int[] ahead = {0, 2, 0, 0, 0};
+        int[] putOff = {0, 3, 0, 0, 1};
+        int[] failed = {0, 4, 1, 1, 1};
+        int[] round = {1, 5, 1, 1, 1};
+        counts(x, ahead);
+        x.ticks(40);
+        counts(x, ahead);
+        x.ticks(1);
+        counts(x, putOff);
+        // b ASKS alone, of WORD 011001: it withdraws to LINE 2, and all see LINES 4 to 1
+        x.stick(2, 1);
+        x.stick(1, 1);
+        x.ticks(40);
+        counts(x, failed);
+        x.stick(2, 0);
+        x.stick(1, 0);
+        x.ticks(39);
+        counts(x, failed);
+        x.ticks(1);
+        counts(x, round);
+    }
+
+    private static void counts(OpenLines x, int[] want) {
+        for (int i = 0; i < want.length; i++) {
+            now(x, 6 + i, want[i]);
+        }
+    }
+
     @Edge(promise = 26, says = "TIME is 1 more; BOARDS ASK, as told for that TIME.")
     static void promise26AsToldForThatTime() {
         OpenLines x = Texts.made(FOUR + ";ask 1 a 1;ask 7 b 1;ask 7 c 1");
@@ -164,6 +212,41 @@ public final class RunEdgeTest {
         CHECK.told("to ELECT", x, x.will(1, 3), -2);
         x.waits(3, 0);
         CHECK.told("to the MASTER, which doesn't ASK", x, x.will(1, 3), -2);
+    }
+
+    /** f is MASTER and e ELECT; of the others a alone is of a greater RANK, and ASKS for the least time. */
+    @Edge(promise = 26, says = "some that ASKS has a greater RANK OF THE DAY than ELECT: one begins, of all that ASK.")
+    static void promise26FirstOfSixIsGreater() {
+        OpenLines x = Texts.made(Buses.text(1, 0, 5, 0, 1, 7, 1, 2, 6, 2, 4, 6, 3, 8, 6, 4, 16, 6, 5, 31, 6));
+        x.ask(5, 50);
+        x.ticks(11);
+        x.ask(4, 1);
+        x.ticks(11);
+        now(x, 0, 5);
+        now(x, 2, 4);
+        x.ask(1, 1);
+        x.ask(3, 99);
+        x.ticks(1);
+        now(x, 3, -2);
+        x.ask(0, 1);
+        x.ticks(1);
+        now(x, 3, 34);
+        now(x, 4, 0b011011);
+    }
+
+    @Edge(promise = 26, says = "some that ASKS has a greater RANK OF THE DAY than ELECT: one begins, of all that ASK.")
+    static void promise26LastOfSixIsGreater() {
+        OpenLines x = Texts.made(Buses.text(1, 0, 5, 0, 1, 6, 1, 2, 6, 2, 4, 6, 3, 8, 6, 4, 16, 6, 5, 31, 7));
+        x.ask(0, 50);
+        x.ticks(11);
+        x.ask(1, 1);
+        x.ticks(11);
+        now(x, 0, 0);
+        now(x, 2, 1);
+        x.ask(5, 1);
+        x.ticks(1);
+        now(x, 3, 33);
+        now(x, 4, 0b100010);
     }
 
     @Edge(promise = 26, says = "If no ARBITRATION goes on, and either none is ELECT and some BOARD ASKS")
@@ -293,6 +376,22 @@ public final class RunEdgeTest {
         }
     }
 
+    @Edge(promise = 26, says = "ELECT as it wasn't FRESH: a ROUND begins: all are FRESH first; then ELECT is FRESH no more.")
+    static void promise26ARoundBegunByEach() {
+        for (int b = 0; b < 3; b++) {
+            OpenLines x = Texts.made(Buses.text(1, 0, 5, 0, 1, 0, 1, 2, 0, 2, 4, 0));
+            int[] askers = {0, 1, 2, b};
+            int[] fresh = {6, 4, 0, 7 - (1 << b)};
+            for (int i = 0; i < askers.length; i++) {
+                x.ask(askers[i], 1);
+                x.ticks(12);
+                int set = x.board(0, 4) | x.board(1, 4) << 1 | x.board(2, 4) << 2;
+                CHECK.told("FRESH", x, set, fresh[i]);
+                now(x, 6, i / 3);
+            }
+        }
+    }
+
     @Edge(promise = 26, says = "ELECT as it wasn't FRESH: a ROUND begins")
     static void promise26NoRoundWhileSomeAreFresh() {
         OpenLines x = Texts.made(Buses.text(1, 0, 5, 0, 1, 0, 1, 2, 0));
@@ -412,6 +511,24 @@ public final class RunEdgeTest {
         now(x, 5, 0);
     }
 
+    @Edge(promise = 27, says = "2 REFUSED, 3 how often it was PUT OFF")
+    static void promise27RefusedAndPutOffOfEach() {
+        OpenLines x = masterAndElect();
+        x.ask(3, 5);
+        for (int b = 0; b < 4; b++) {
+            for (int i = 0; i < b; i++) {
+                x.ask(b, 1);
+            }
+        }
+        x.ticks(41);
+        int[] refused = {0, 1, 1, 3};
+        int[] putOff = {0, 1, 0, 0};
+        for (int b = 0; b < 4; b++) {
+            ledger(x, b, 2, refused[b]);
+            ledger(x, b, 3, putOff[b]);
+        }
+    }
+
     @Edge(promise = 27, says = "4 the longest that it ASKED till it was MASTER (-2 it wasn't)")
     static void promise27Longest() {
         OpenLines x = Texts.made(Buses.text(1, 0, 5, 0, 1, 0, 1, 2, 0) + ";ask 60 a 3");
@@ -503,6 +620,39 @@ public final class RunEdgeTest {
         CHECK.told("the latest of 40", y, y.log(0, 0), 159);
         CHECK.told("the last that is told", y, y.log(15, 0), 99);
         CHECK.refused("log(16, 0) of 40", y, y.log(16, 0), 1);
+    }
+
+    @Edge(promise = 28, says = "0 TIME, 1 CONTENDERS")
+    static void promise28FirstAndAllContenders() {
+        for (int set : new int[] {1, 32, 33, 63}) {
+            OpenLines x = Texts.made(Buses.text(1, 0, 1, 0, 1, 0, 1, 2, 0, 2, 3, 0, 3, 4, 0, 4, 5, 0, 5, 6, 7));
+            x.ticks(999);
+            x.ticks(999);
+            for (int b = 0; b < 6; b++) {
+                if ((set >> b & 1) != 0) {
+                    x.ask(b, 1);
+                }
+            }
+            x.ticks(3);
+            log(x, 0, 2001, set);
+        }
+    }
+
+    @Edge(promise = 28, says = "(TIME, CONTENDERS, WINNERS of both PASSES, whom they ELECTED, how many PASSES were FAULTY)")
+    static void promise28AllOfEach() {
+        OpenLines x = Texts.made(FOUR);
+        x.ask(0, 1);
+        x.ask(1, 1);
+        x.ask(2, 1);
+        x.ticks(41);
+        log(x, 0, 41, 7, 6, 4, 2, 0);
+        x.ticks(40);
+        log(x, 0, 81, 3, 2, 2, 1, 0);
+        log(x, 1, 41, 7, 6, 4, 2, 0);
+        x.stick(0, 1);
+        x.ticks(40);
+        log(x, 0, 121, 1, 1, 0, -2, 1);
+        log(x, 2, 41, 7, 6, 4, 2, 0);
     }
 
     @Edge(promise = 28, says = "2, 3 WINNERS of PASS 1, 2 (bits; 0, where it wasn't made), 4 whom they ELECTED (-2), 5 FAULTY PASSES.")

@@ -32,6 +32,14 @@ public final class TapeEdgeTest {
         CHECK.told("about(3)", x, x.about(3), 1);
     }
 
+    @Edge(promise = 1, says = "`NONE = -1`: There is none; refused.")
+    static void promise1None() {
+        OpenLines x = new OpenLines();
+        CHECK.due("NONE", OpenLines.NONE, -1);
+        CHECK.due("there is none", x.where(), -1);
+        CHECK.due("refused", x.now(0), -1);
+    }
+
     // ---- promise 2
 
     @Edge(promise = 2, says = "Twenty bytes come behind THE TAPE")
@@ -144,6 +152,23 @@ public final class TapeEdgeTest {
         CHECK.due("where()", x.where(), ONE.length() - 1);
     }
 
+    @Edge(promise = 3, says = "The first n bytes of THE TAPE")
+    static void promise3WordsThatAreCut() {
+        OpenLines x = new OpenLines();
+        String text = ONE + ";board";
+        Texts.feed(x, text);
+        CHECK.refused("boar", x, x.bus(text.length() - 1), 4);
+        CHECK.due("fault()", x.fault(), 1);
+        CHECK.due("at boar: where()", x.where(), ONE.length() + 1);
+        Texts.feed(x, text);
+        CHECK.refused("board", x, x.bus(text.length()), 4);
+        CHECK.due("behind board: where()", x.where(), text.length());
+        String seven = ONE + ";board abcdefg";
+        Texts.feed(x, seven);
+        CHECK.refused("six of seven letters", x, x.bus(seven.length() - 1), 4);
+        CHECK.due("behind them: where()", x.where(), seven.length() - 1);
+    }
+
     @Edge(promise = 3, says = "(it is empty then)")
     static void promise3TapeIsEmptyBehindABus() {
         OpenLines x = new OpenLines();
@@ -252,6 +277,55 @@ public final class TapeEdgeTest {
         OpenLines x = Buses.rich();
         Texts.bus(x, Buses.THREE);
         CHECK.due("all is as with a new object", Buses.print(x).equals(Buses.print(Texts.made(Buses.THREE))), true);
+    }
+
+    @Edge(promise = 3, says = "are the BUS from now on (TIME 0, all LINES whole, nothing kept)")
+    static void promise3NothingOfTheTextsBefore() {
+        String full = ONE + ";ask 2 a 9".repeat(11) + ";ask 999 a 9";
+        String[][] before = {{full}, {full + ";"}, {full, full}, {full, ONE}, {full, full + ";"}, {full + ";", full}, {full, full, full}};
+        for (String[] texts : before) {
+            OpenLines x = new OpenLines();
+            for (String text : texts) {
+                Texts.bus(x, text);
+            }
+            CHECK.told("a TIME less than those of the text before", x, Texts.bus(x, ONE + ";ask 3 a 7"), 1);
+            CHECK.told("asks told", x, x.about(4), 1);
+            CHECK.due("asks to come", x.size(1), 1);
+            x.ticks(2);
+            CHECK.told("nobody ASKS", x, x.now(5), 0);
+            x.ticks(1);
+            CHECK.told("TICKS", x, x.board(0, 5), 7);
+            CHECK.told("nobody was REFUSED", x, x.ledger(0, 2), 0);
+            CHECK.due("asks to come", x.size(1), 0);
+        }
+    }
+
+    @Edge(promise = 3, says = "are the BUS from now on (TIME 0, all LINES whole, nothing kept)")
+    static void promise3NothingIsCounted() {
+        String text = Buses.text(1, 0, 20, 0, 1, 2, 1, 2, 3, 2, 4, 7);
+        OpenLines x = Texts.made(text + ";ask 1 a 50;ask 42 b 5;ask 83 c 5;ask 83 c 5");
+        x.ticks(150);
+        // c has put b off at 123; b alone fails at 163, as it sees LINES 5 and 4, and begins a ROUND at 203
+        x.stick(5, 1);
+        x.stick(4, 1);
+        x.ticks(13);
+        x.stick(5, 0);
+        x.stick(4, 0);
+        x.ticks(100);
+        for (int what = 6; what <= 10; what++) {
+            CHECK.due("now(" + what + ") is counted", x.now(what) > 0, true);
+        }
+        CHECK.told("another BUS", x, Texts.bus(x, text), 3);
+        for (int what = 6; what <= 10; what++) {
+            CHECK.told("now(" + what + ")", x, x.now(what), 0);
+        }
+        for (int what = 0; what <= 5; what++) {
+            for (int b = 0; b < 3; b++) {
+                CHECK.told("ledger(" + b + ", " + what + ")", x, x.ledger(b, what), what == 4 ? -2 : 0);
+            }
+        }
+        CHECK.refused("THE LOG is empty", x, x.log(0, 0), 1);
+        CHECK.told("nobody was MASTER", x, x.past(0), -2);
     }
 
     @Edge(promise = 3, says = "how many BOARDS")

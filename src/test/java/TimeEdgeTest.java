@@ -164,6 +164,19 @@ public final class TimeEdgeTest {
     }
 
     @Edge(promise = 32, says = "The BOARD that has ASKED longest (of several the first by SLOTS)")
+    static void promise32FirstAndLastSlot() {
+        String[] asks = {";ask 3 a 1", ";ask 3 b 1", ";ask 3 a 1;ask 3 b 1", ";ask 3 a 1;ask 4 b 1", ";ask 3 b 1;ask 4 a 1"};
+        int[][] want = {{0, 1, 0, 0, 1}, {0, 1, 1, 0, 1}};
+        for (int i = 0; i < asks.length; i++) {
+            for (int slot = 0; slot <= 9; slot += 9) {
+                OpenLines x = Texts.made(Buses.text(1, 0, 9, slot, 1, 0, 9 - slot, 2, 0) + asks[i]);
+                x.ticks(4);
+                CHECK.told("a at SLOT " + slot + asks[i], x, x.longest(), want[slot / 9][i]);
+            }
+        }
+    }
+
+    @Edge(promise = 32, says = "The BOARD that has ASKED longest (of several the first by SLOTS)")
     static void promise32RefusedAsksDoNotCount() {
         OpenLines x = Texts.made(SLOTS);
         x.ask(0, 5);
